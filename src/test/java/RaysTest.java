@@ -134,5 +134,9 @@ public final class RaysTest {
         Due.is("seen(0, 0)", first.seen(0, 0), 0);
         Due.is("seen(0, 1)", first.seen(0, 1), WallBsp.NONE);
         Due.is("edge(0) at the first", first.edge(0), 0);
+        WallBsp whole = new WallBsp();
+        whole.wall(14, -14, 14, 14);
+        Due.is("seen(0, 15) of a wall in all columns", whole.seen(0, 15), 0);
+        Due.is("edge(0) of a wall that ends beyond the last", whole.edge(0), WallBsp.NONE);
     }
 }
