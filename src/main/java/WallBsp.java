@@ -105,7 +105,7 @@ public final class WallBsp {
             return BAD_ARG;
         }
         int n = nearestWall(look, column);
-        if (n == NONE) {
+        if (!isWall(n)) {
             return NONE;
         }
         int dx = rayX(look, column);
