@@ -54,7 +54,8 @@ public final class FaceTest {
                 continue;
             }
             Due.that(method + " is public and answers an int",
-                    method.getModifiers() == Modifier.PUBLIC && method.getReturnType() == int.class);
+                    method.getModifiers() == Modifier.PUBLIC
+                            && method.getReturnType() == int.class);
             for (Class<?> type : method.getParameterTypes()) {
                 Due.that(method + " takes ints alone", type == int.class);
             }

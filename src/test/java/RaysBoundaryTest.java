@@ -212,7 +212,7 @@ public final class RaysBoundaryTest {
     }
 
     private static void visibleFromNoneToTen() {
-        Due.about("Promise 12: The number of different walls seen in the sixteen columns of a look");
+        Due.about("Promise 12: The number of different walls seen in the sixteen columns");
         int[] shutIn = {1, 2, 2, 2};
         for (int look = 0; look < 4; look++) {
             Due.is("visible(" + look + ") without walls", Scene.NEW.made().visible(look), 0);

@@ -262,7 +262,7 @@ public final class TermsBoundaryTest {
         }
     }
 
-    /** No two walls that stand are hit at a lesser distance from each other than these. */
+    /** No ray hits two walls that can stand together at a closer t and t than here. */
     private static void leastOfTwoClose() {
         Due.about("The wall SEEN in a ray is the one that is hit at the least t of all walls");
         WallBsp nearFirst = new WallBsp();
